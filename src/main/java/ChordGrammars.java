@@ -534,9 +534,7 @@ public final class ChordGrammars {
 
         private int ringPlace() {
             for (int rule = 0; rule < found.rules; rule++) {
-                int left = found.lefts[rule];
-                int one = found.ones[rule];
-                if (found.renames(rule) && (one == left || reaches(one, left))) {
+                if (found.renames(rule) && reaches(found.ones[rule], found.lefts[rule])) {
                     return leftPlaces[rule];
                 }
             }
