@@ -46,14 +46,19 @@ final class Due {
     static int write(ChordGrammars x, String text) {
         int size = x.told(2);
         for (int from = 0; from < text.length(); from += 8) {
-            int n = Math.min(8, text.length() - from);
-            long octets = 0;
-            for (int k = n - 1; k >= 0; k--) {
-                octets = octets << 8 | text.charAt(from + k);
-            }
-            size = x.draft(n, octets);
+            String part = text.substring(from, Math.min(text.length(), from + 8));
+            size = x.draft(part.length(), octets(part));
         }
         return size;
+    }
+
+    /** Up to eight octets, the first one lowest. */
+    static long octets(String text) {
+        long octets = 0;
+        for (int k = text.length() - 1; k >= 0; k--) {
+            octets = octets << 8 | text.charAt(k);
+        }
+        return octets;
     }
 
     static int grammar(ChordGrammars x, String text) {

@@ -140,7 +140,7 @@ public final class LimitsTest {
         com.sun.management.ThreadMXBean bean = (com.sun.management.ThreadMXBean) ManagementFactory.getThreadMXBean();
         int warm = allCalls(x);
         long before = bean.getThreadAllocatedBytes(Thread.currentThread().getId());
-        for (int k = 0; k < 20; k++) {
+        for (int k = 0; k < 15; k++) {
             warm += allCalls(x);
         }
         long made = bean.getThreadAllocatedBytes(Thread.currentThread().getId()) - before;

@@ -4,6 +4,9 @@ import java.util.Random;
 public final class ModelTest {
     private static final Due due = new Due("ModelTest");
     private static final String KIND_LETTERS = "Mmdasjnho";
+    /** An object is used for 512 calls at most; a round that begins needs some for its rules and slots. */
+    private static final int MOST_CALLS = 512;
+    private static final int CALLS_OF_A_ROUND = 200;
 
     private final Random random;
     private final ChordGrammars x = new ChordGrammars();
@@ -24,10 +27,10 @@ public final class ModelTest {
     }
 
     public static void main(String[] args) {
-        for (int seed = 0; seed < 1500; seed++) {
+        for (int seed = 0; seed < 2000; seed++) {
             new ModelTest(seed, Integer.MAX_VALUE, 1 + seed % 3, 1 + seed % 5, 1 + seed % 9).play();
         }
-        for (int seed = 0; seed < 400; seed++) {
+        for (int seed = 0; seed < 600; seed++) {
             new ModelTest(seed, 30, 1 + seed % 5, 3 + seed % 7, 3 + seed % 16).play();
         }
         for (int seed = 0; seed < 4; seed++) {
@@ -46,7 +49,7 @@ public final class ModelTest {
 
     private void play() {
         settings();
-        for (int round = 0; round < 3; round++) {
+        for (int round = 0; round < 3 && calls <= MOST_CALLS - CALLS_OF_A_ROUND; round++) {
             rules(random.nextInt(8) == 0);
             for (int k = random.nextInt(6) == 0 ? 0 : 1 + random.nextInt(mostSlots); k > 0; k--) {
                 slot();
@@ -54,13 +57,14 @@ public final class ModelTest {
             ask(5);
             same("parse()", x.parse(), model.parse());
             due.yes(run + ": the model counts what it lists", model.countsAreTrees());
-            ask(60);
+            ask(40);
             settings();
             ask(10);
             if (random.nextBoolean() || model.told(0) >= mostSlots) {
                 same("clear()", x.clear(), model.clear());
             }
         }
+        due.yes(run + ": " + calls + " calls", calls <= MOST_CALLS);
     }
 
     private void faults() {
@@ -190,7 +194,7 @@ public final class ModelTest {
     }
 
     private void ask(int times) {
-        for (int k = 0; k < times; k++) {
+        for (int k = 0; k < times && calls < MOST_CALLS - CALLS_OF_A_ROUND / 4; k++) {
             int reading = about(model.told(3));
             int slot = about(Math.max(model.told(0), model.told(4)));
             int root = about(12);
@@ -212,7 +216,7 @@ public final class ModelTest {
     }
 
     private void tree(int reading) {
-        for (int i = -1; i <= Math.max(0, model.nodes(reading)); i++) {
+        for (int i = -1; i <= Math.max(0, model.nodes(reading)) && calls < MOST_CALLS - CALLS_OF_A_ROUND / 4; i++) {
             int what = about(4);
             String call = "node(" + reading + ", " + i + ", " + what + ")";
             same(call, x.node(reading, i, what), model.node(reading, i, what));
@@ -223,6 +227,7 @@ public final class ModelTest {
         if (model.hasCell(from, to, letter)) {
             same("cell(" + from + ", " + to + ", " + letter + ")", x.cell(from, to, letter), model.cell(from, to, letter));
         } else {
+            calls++;
             due.noCell(run, x, from, to, letter);
         }
     }
