@@ -1,16 +1,13 @@
 import java.lang.management.ManagementFactory;
-import java.lang.reflect.Array;
-import java.lang.reflect.Field;
-import java.lang.reflect.Modifier;
-import java.util.IdentityHashMap;
-import java.util.Map;
 
 /** The largest inputs that the document lets in, counts that wrap, and the room that an object takes. */
 public final class LimitsTest {
     private static final Due due = new Due("LimitsTest");
     private static final int C = Due.set(0, 4, 7);
+    /** One run's room: 7.3 million fields and elements, none of more than 8 octets. */
+    private static final long ROOM_OCTETS = 7_300_000L * 8;
 
-    public static void main(String[] args) throws IllegalAccessException {
+    public static void main(String[] args) {
         largestTree();
         deepTrees();
         wrappedCounts();
@@ -131,20 +128,25 @@ public final class LimitsTest {
         }
     }
 
-    private static void room() throws IllegalAccessException {
-        ChordGrammars x = full("A=AA;A=1;A=5:3;A=B;B=1B:2;B=6;", 4095);
-        Map<Object, Boolean> seen = new IdentityHashMap<>();
-        long size = sizeOf(x, seen);
-        due.yes("few objects: " + seen.size(), seen.size() < 100);
-        due.yes("few fields and elements: " + size, size < 300_000);
+    /** All that a run makes counts, also what is no more used: so what was ever made is measured, not what is kept. */
+    private static void room() {
         com.sun.management.ThreadMXBean bean = (com.sun.management.ThreadMXBean) ManagementFactory.getThreadMXBean();
-        int warm = allCalls(x);
-        long before = bean.getThreadAllocatedBytes(Thread.currentThread().getId());
-        for (int k = 0; k < 15; k++) {
-            warm += allCalls(x);
+        long thread = Thread.currentThread().getId();
+        long before = bean.getThreadAllocatedBytes(thread);
+        ChordGrammars x = full("A=AA;A=1;A=5:3;A=B;B=1B:2;B=6;", 4095);
+        int sum = 0;
+        for (int k = 0; k < 230; k++) {
+            sum += x.parse() + x.nodes(k % 30);
         }
-        long made = bean.getThreadAllocatedBytes(Thread.currentThread().getId()) - before;
-        due.yes("calls make no objects: " + made + " octets (" + warm + ")", made < 2000);
+        long made = bean.getThreadAllocatedBytes(thread) - before;
+        due.yes("parses fit into one room: " + made + " octets (" + sum + ")", made < ROOM_OCTETS);
+        before = bean.getThreadAllocatedBytes(thread);
+        x = new ChordGrammars();
+        for (int k = 0; k < 18; k++) {
+            sum += allCalls(x);
+        }
+        made = bean.getThreadAllocatedBytes(thread) - before;
+        due.yes("all calls fit into one room: " + made + " octets (" + sum + ")", made < ROOM_OCTETS);
     }
 
     private static int allCalls(ChordGrammars x) {
@@ -153,22 +155,5 @@ public final class LimitsTest {
         sum += x.clear() + x.slot(C, 0, 62) + x.slot(4095, -1, 60) + x.slot(4095, -1, 61) + x.fit(0, 0, 0) + x.best(1);
         sum += x.parse() + x.price(0) + x.nodes(0) + x.node(0, 3, 2) + x.chord(0, 1) + x.cadence(0) + x.melody(0, 1);
         return sum + (int) (x.readings() + x.cell(0, 1, 0)) + x.told(3);
-    }
-
-    private static long sizeOf(Object o, Map<Object, Boolean> seen) throws IllegalAccessException {
-        if (o == null || seen.put(o, true) != null) {
-            return 0;
-        }
-        if (o.getClass().isArray()) {
-            return Array.getLength(o);
-        }
-        long size = 0;
-        for (Field f : o.getClass().getDeclaredFields()) {
-            if (!Modifier.isStatic(f.getModifiers())) {
-                f.setAccessible(true);
-                size += 1 + (f.getType().isPrimitive() ? 0 : sizeOf(f.get(o), seen));
-            }
-        }
-        return size;
     }
 }
