@@ -1,3 +1,4 @@
+import java.util.Arrays;
 import java.util.List;
 import java.util.function.Consumer;
 
@@ -40,6 +41,7 @@ public final class TermsEdgesTest {
         symbolReadsOneSlot();
         symbolOfSeveralKinds();
         twoItemsNeedTwoSlots();
+        noPartIsEmpty();
         partsAreInTheirOrder();
         costOfAReading();
         firstRulesLeftIsRead();
@@ -471,6 +473,24 @@ public final class TermsEdgesTest {
         due.same("two slots", x.parse(), 1);
         x.slot(C, 0, NONE);
         due.same("three slots", x.parse(), 0);
+    }
+
+    /** The rule with one item stands first, so that the name reads the row already when the other rule is tried. */
+    private static void noPartIsEmpty() {
+        long[] catalan = {1, 1, 2, 5, 14};
+        for (int slots = 1; slots <= 5; slots++) {
+            int[] sets = new int[slots];
+            Arrays.fill(sets, C);
+            ChordGrammars x = made("A=1;A=AA;", sets);
+            due.same("parts of " + slots, x.parse(), (int) catalan[slots - 1]);
+            due.same("parts of " + slots, x.readings(), catalan[slots - 1]);
+            x = made("A=1;A=BA;A=AB;B=1;", sets);
+            x.parse();
+            due.same("parts at either end of " + slots, x.readings(), 1L << slots - 1);
+            for (int slot = 0; slot < slots; slot++) {
+                due.same("one slot has no two parts", x.cell(slot, slot, 0), 1);
+            }
+        }
     }
 
     private static void partsAreInTheirOrder() {
