@@ -24,15 +24,18 @@ final class Due {
         same(what, got ? 1 : 0, 0);
     }
 
+    /** The class throws by itself, not the machine: whose own text begins with "Index ". */
     void noCell(String what, ChordGrammars x, int from, int to, int letter) {
-        Class<?> thrown = null;
+        String call = what + ": cell(" + from + ", " + to + ", " + letter + ")";
+        RuntimeException thrown = null;
         try {
             x.cell(from, to, letter);
         } catch (RuntimeException e) {
-            thrown = e.getClass();
+            thrown = e;
         }
-        yes(what + ": cell(" + from + ", " + to + ", " + letter + ") throws, not " + thrown,
-            thrown == ArrayIndexOutOfBoundsException.class);
+        yes(call + " throws, not " + thrown, thrown != null && thrown.getClass() == ArrayIndexOutOfBoundsException.class);
+        String text = thrown == null ? null : thrown.getMessage();
+        no(call + " throws by the machine: " + text, text != null && text.startsWith("Index "));
     }
 
     void end() {
